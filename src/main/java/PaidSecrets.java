@@ -274,7 +274,7 @@ public final class PaidSecrets {
     }
 
     public int settle() {
-        return now.fewestPayments(here);
+        return collector.fewestPayments(here, now);
     }
 
     public int rests(int people, int what) {
@@ -767,7 +767,7 @@ public final class PaidSecrets {
             }
         }
 
-        boolean readAll(Tape tape, int depth) {
+        private boolean readAll(Tape tape, int depth) {
             if (!readTest(tape, depth)) {
                 return false;
             }
@@ -1479,37 +1479,6 @@ public final class PaidSecrets {
             net[debtor] -= worth;
             loans++;
         }
-
-        /** People whose NETS cancel out among themselves save one payment for each such group. */
-        int fewestPayments(Town town) {
-            int owing = 0;
-            for (int i = 0; i < town.people; i++) {
-                owing |= net[i] != 0 ? 1 << i : 0;
-            }
-            return Integer.bitCount(owing) - mostGroups(owing, 0);
-        }
-
-        private int mostGroups(int owing, int depth) {
-            if (owing == 0 || depth > MOST_PEOPLE) {
-                return 0;
-            }
-            int first = owing & -owing;
-            int most = 0;
-            for (int group = owing; group > 0; group = (group - 1) & owing) {
-                if ((group & first) != 0 && netOf(group) == 0) {
-                    most = Math.max(most, 1 + mostGroups(owing & ~group, depth + 1));
-                }
-            }
-            return most;
-        }
-
-        private int netOf(int people) {
-            int sum = 0;
-            for (int i = 0; i < MOST_PEOPLE; i++) {
-                sum += bit(people, i) * net[i];
-            }
-            return sum;
-        }
     }
 
     /** Who can pay, and by which SECRETS; the WORTH of each set of SECRETS stands ready. */
@@ -1517,6 +1486,7 @@ public final class PaidSecrets {
         private final int[] sums = new int[SECRET_SETS];
         /** By the SECRETS at hand: a bit for each set of PEOPLE who can all pay by them. */
         private final long[] payable = new long[SECRET_SETS];
+        private final int[] groups = new int[PEOPLE_SETS];
 
         void weighSets(Town town, int[] worths) {
             sums[0] = 0;
@@ -1581,6 +1551,27 @@ public final class PaidSecrets {
                     }
                 }
             }
+        }
+
+        /**
+         * PEOPLE whose NETS cancel out among themselves save one payment for each such group; one put behind another,
+         * a group more ends wherever the NETS so far come to 0.
+         */
+        int fewestPayments(Town town, State state) {
+            groups[0] = 0;
+            int all = (1 << town.people) - 1;
+            for (int set = 1; set <= all; set++) {
+                int most = 0;
+                int net = 0;
+                for (int i = 0; i < town.people; i++) {
+                    if (bit(set, i) == 1) {
+                        most = Math.max(most, groups[set & ~(1 << i)]);
+                        net += state.net[i];
+                    }
+                }
+                groups[set] = net == 0 ? most + 1 : most;
+            }
+            return town.people - groups[all];
         }
     }
 

@@ -78,7 +78,8 @@ public final class RandomRunsTest {
     }
 
     private int number(int most) {
-        return random.nextInt(20) == 0 ? random.nextInt(5) == 0 ? random.nextInt() : -1 : random.nextInt(most);
+        int[] wild = {-1, -2, most, most + 1, 31, 32, 64, Integer.MIN_VALUE, Integer.MAX_VALUE, random.nextInt()};
+        return random.nextInt(15) == 0 ? wild[random.nextInt(wild.length)] : random.nextInt(most);
     }
 
     private int one() {
@@ -102,7 +103,7 @@ public final class RandomRunsTest {
             case 1 -> due("secret" + args, x.secret(s, what), oracle.secret(s, what));
             case 2 -> due("aware" + args, x.aware(p, q, s), oracle.aware(p, q, s));
             case 3 -> due("ear" + args, x.ear(p, q), oracle.ear(p, q));
-            case 4, 5, 6 -> due("tell" + args, x.tell(p, q, s), oracle.tell(p, q, s));
+            case 4, 5, 6 -> tellDue(q, s);
             case 7 -> due("pay" + args, x.pay(p, bits), oracle.pay(p, bits));
             case 8 -> due("rise" + args, x.rise(p), oracle.rise(p));
             case 9 -> due("quarter", x.quarter(), oracle.quarter());
@@ -119,9 +120,22 @@ public final class RandomRunsTest {
             case 21 -> due("settle", x.settle(), oracle.settle());
             case 22 -> restsDue(what);
             case 23 -> yearsDue(what);
-            case 24 -> due("mark" + args, x.mark(what % 5, flag), oracle.mark(what % 5, flag));
+            case 24 -> markDue(what % 5, random.nextInt(4) == 0);
             default -> due("count " + what, x.count(what), oracle.count(what));
         }
+    }
+
+    /** Mostly by one who knows it: of others hardly one could tell. */
+    private void tellDue(int q, int s) {
+        int p = one();
+        for (int i = 0; i < 6 && random.nextInt(8) > 0 && (x.secret(s, 4) >> (p & 15) & 1) == 0; i++) {
+            p = one();
+        }
+        due("tell " + p + " " + q + " " + s, x.tell(p, q, s), oracle.tell(p, q, s));
+    }
+
+    private void markDue(int mark, boolean back) {
+        due("mark " + mark + " " + back, x.mark(mark, back), oracle.mark(mark, back));
     }
 
     private void lendDue(int p, int s, String args) {
