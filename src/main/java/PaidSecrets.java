@@ -702,8 +702,11 @@ public final class PaidSecrets {
             return kind == SIGN && sign == wanted;
         }
 
+        /** The first fault stays, whatever is asked of the same token behind it. */
         boolean wrong(int faultKind) {
-            fault = faultKind + 16 * place;
+            if (fault == 0) {
+                fault = faultKind + 16 * place;
+            }
             return false;
         }
 

@@ -124,6 +124,7 @@ public final class PromisesTest {
         fine("\nperson\na\nplain\nrank\n1\ntax\n2\n;\n");
         fine("person cost plain rank 1 tax 1;person age deaf rank 1 tax 1;secret high true of cost costs 1 by age;");
         fine("person knowers plain rank 1tax 1;worth knowers;");
+        fine("person zaz plain rank 1 tax 1;person azz plain rank 1 tax 1;secret z true of zaz costs 1 by azz;");
         fault(1, "person ^abcdefghi plain rank 1 tax 1;");
         fault(1, "person a plain rank ^00001 tax 1;");
         fault(1, "person a plain rank 1 tax ^12345;");
@@ -188,6 +189,10 @@ public final class PromisesTest {
         }
         fine(ten.toString());
         fault(5, ten + "^secret u true of a costs 1 by b;");
+        PaidSecrets x = Check.of(ten.toString());
+        due("pay by ten", Check.gossip(x, "pay b k l m n o p q r s t;"), 0);
+        due("all ten", x.judged(0), NONE);
+        due("pay by eleven", Check.gossip(x, "pay b k l m n o p q r s t t;"), 3 + 16 * 26);
     }
 
     private static void pairFaults(String s) {
@@ -237,6 +242,10 @@ public final class PromisesTest {
         fault(5, "worth not not not not not ^not 1;");
         fault(5, "worth not(not(not^(cost)));");
         fault(5, "worth 1+(((not(^knowers))));");
+        for (String sign : new String[] {" and ", " or ", "<", "=", "+", "-", "*"}) {
+            fault(5, "worth ((((1" + sign + "(^1)))));");
+            fault(5, "worth not not not(1" + sign + "not ^high);");
+        }
         fault(1, "worth (((((^;");
         fault(1, "worth (((((^)");
         fault(1, "worth (((((^tip");
@@ -272,7 +281,9 @@ public final class PromisesTest {
         due("rank as told", Check.person(x, 0, 1), 3);
         due("not fined", Check.person(x, 0, 6), 0);
         due("nothing owed", Check.person(x, 0, 7), 0);
-        due("no mark", x.mark(2, true), false);
+        for (int mark = 0; mark < 4; mark++) {
+            due("no mark", x.mark(mark, true), false);
+        }
         due("no undo", x.undo(), false);
         due("less", Check.town(x, TWO), 0);
         due("people less", x.count(0), 2);
@@ -328,7 +339,11 @@ public final class PromisesTest {
         law("high", 7);
         law("age", 0);
         law("cost*2-knowers*10+high+age", 77);
+        String deep = "0 or 0<1+2*(";
+        law(deep + deep + deep + deep + "0 or 0<1+2*3" + "))))", 1);
+        law("1+2*(2+3*(3+4*(4+5*(5+6*7))))-5000", 759);
         wraps();
+        longLaw();
         PaidSecrets x = Check.of("person a plain rank 7 tax 0;person b plain rank 2 tax 0;"
             + "secret s true of b costs 40 by a;worth cost+100*age+high*knowers;");
         due("at first", x.secret(0, 6), 42);
@@ -341,6 +356,16 @@ public final class PromisesTest {
         due("told", x.tell(0, 1, 0), 146);
         due("told", x.undo(), true);
         due("untold", x.secret(0, 6), 143);
+    }
+
+    /** As long as the TAPE lets it be: 1 and +1 so often. */
+    private static void longLaw() {
+        String town = "person a deaf rank 1 tax 1;secret s true of a costs 1 by a;worth 1";
+        int more = (1000 - town.length() - 1) / 2;
+        PaidSecrets x = Check.of(town + "+1".repeat(more) + ";");
+        due("a long law", x.secret(0, 6), more + 1);
+        due("none", Check.town(x, "worth 1" + "+1".repeat(496) + ";"), 0);
+        due("cut off", Check.town(x, "worth 1" + "+1".repeat(500) + ";"), 1 + 16 * 1000);
     }
 
     /** 2^31 = 8192 * 8192 * 32 */
@@ -536,6 +561,7 @@ public final class PromisesTest {
         due("not paid", x.secret(4, 8), 0);
         due("twice", x.pay(0, 16), NONE);
         due("paid by another", x.pay(2, 2), NONE);
+        due("without a tax, by none", x.pay(2, 0), NONE);
         due("without a tax", x.pay(2, 16), 63);
         due("all paid", x.pay(4, 16), NONE);
         due("a priest", x.pay(3, 8), 50);
@@ -768,6 +794,20 @@ public final class PromisesTest {
             + "worth knowers*10;");
         plot(more, 1, 30, 1, 20, NONE);
         plot(more, 2, 40, 2, 20, 21);
+        due("the first row of all", Check.plot(more, 1, 3, 2, 1), 0);
+        PaidSecrets last = Check.of("person a plain rank 1 tax 0;person b plain rank 1 tax 0;"
+            + "secret s true of a costs 10 by b;secret t true of a costs 9 by b;worth knowers*cost;");
+        int[] want = {19, 0, NONE, NONE};
+        for (int what = 0; what < 4; what++) {
+            due("told to him it would be lost " + what, Check.plot(last, 1, 0, 2, what), want[what]);
+        }
+        PaidSecrets first = Check.of("person a plain rank 1 tax 0;person b plain rank 1 tax 0;"
+            + "person c plain rank 1 tax 0;secret s true of a costs 10 by b;secret t true of a costs 10 by b;"
+            + "worth knowers*cost;");
+        int[] both = {40, 2, 0, 1};
+        for (int what = 0; what < 4; what++) {
+            due("rows from 0 on " + what, Check.plot(first, 1, 2, 2, what), both[what]);
+        }
         due("the same", Check.plot(x, 0, 0, 0, 0), Check.THROWN);
         due("nobody", Check.plot(x, 0, 4, 0, 0), Check.THROWN);
         due("nobody", Check.plot(x, -1, 0, 0, 0), Check.THROWN);
@@ -827,6 +867,10 @@ public final class PromisesTest {
         due("others", x.lies(4), NONE);
         due("others", x.lies(-1), NONE);
         lies(Check.of(PEOPLE + SECRETS), 0, 0, 1, 0);
+        PaidSecrets star = Check.of(PEOPLE + SECRETS + "clash one two;clash one three;clash four one;clash one five;");
+        due("clashes of one", star.secret(0, 9), 30);
+        due("clashes of four", star.secret(3, 9), 1);
+        lies(star, 1, 1, 1, 1);
         lies(Check.of(PEOPLE + SECRETS + "clash one two;clash two three;clash three one;"), 2, 3, 3, 0);
         lies(Check.of(PEOPLE + SECRETS + "clash two one;clash two three;clash two four;clash five four;"), 2, 10, 2, 2);
     }
@@ -863,6 +907,8 @@ public final class PromisesTest {
         PaidSecrets sure = Check.of("person a gossip rank 1 tax 0;" + pair + "ear a b 9;");
         due("surely", sure.mean(0, 1), 5000);
         due("surely not", sure.holds(0, 1), 0);
+        PaidSecrets nobody = Check.of("person a plain rank 1 tax 0;" + pair + "ear a b 3;worth 0-knowers;");
+        due("0 is no less than 0", nobody.holds(0, 1), 1000000);
         PaidSecrets chain = Check.of("person a plain rank 1 tax 0;person b plain rank 1 tax 0;"
             + "person c plain rank 1 tax 0;secret s true of b costs 60 by a;ear a b 10;ear b c 10;");
         due("one the first night", chain.mean(0, 1), 30000);
