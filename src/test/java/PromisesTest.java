@@ -165,6 +165,8 @@ public final class PromisesTest {
         fault(1, s + "secret ^true true of a costs 1 by b;");
         fault(1, s + "secret t ^maybe of a costs 1 by b;");
         fault(1, s + "secret t true ^a costs 1 by b;");
+        fault(1, s + "secret t true ^on s by b;");
+        fault(1, s + "secret t true ^by b;");
         fault(2, s + "secret t true of ^s costs 1 by b;");
         fault(2, s + "secret t true of ^x costs 1 by b;");
         fault(1, s + "secret t true of ^of costs 1 by b;");
@@ -233,6 +235,9 @@ public final class PromisesTest {
         fault(1, "worth ^costs;");
         fault(1, "worth ^12345;");
         fault(1, "worth 1 and ^or 1;");
+        fault(1, "worth 1<^and 1;");
+        fault(1, "worth 1+^and 1;");
+        fault(1, "worth 1*^+1;");
         fine("worth ((((1))));");
         fine("worth not not not not 1;");
         fine("worth (1)+(2)*(3)+(not(not 1))+((((4))));");
@@ -339,8 +344,9 @@ public final class PromisesTest {
         law("high", 7);
         law("age", 0);
         law("cost*2-knowers*10+high+age", 77);
-        String deep = "0 or 0<1+2*(";
-        law(deep + deep + deep + deep + "0 or 0<1+2*3" + "))))", 1);
+        String deep = "0 or 2<1+2*(";
+        law(deep + deep + deep + deep + "0 or 2<1+2*3" + "))))", 1);
+        law(deep + deep + deep + deep + "0 or 7<1+2*3" + "))))", 0);
         law("1+2*(2+3*(3+4*(4+5*(5+6*7))))-5000", 759);
         wraps();
         longLaw();
@@ -871,8 +877,20 @@ public final class PromisesTest {
         due("clashes of one", star.secret(0, 9), 30);
         due("clashes of four", star.secret(3, 9), 1);
         lies(star, 1, 1, 1, 1);
+        lies(Check.of(allClash()), 9, 511, 10, 0);
         lies(Check.of(PEOPLE + SECRETS + "clash one two;clash two three;clash three one;"), 2, 3, 3, 0);
         lies(Check.of(PEOPLE + SECRETS + "clash two one;clash two three;clash two four;clash five four;"), 2, 10, 2, 2);
+    }
+
+    private static String allClash() {
+        StringBuilder text = new StringBuilder("person a deaf rank 1 tax 1;");
+        for (char c = 'k'; c < 'k' + 10; c++) {
+            text.append("secret ").append(c).append(" true of a costs 1 by a;");
+            for (char d = 'k'; d < c; d++) {
+                text.append("clash ").append(c).append(' ').append(d).append(';');
+            }
+        }
+        return text.toString();
     }
 
     // ---- promises 22 and 23
