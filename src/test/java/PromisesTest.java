@@ -111,12 +111,8 @@ public final class PromisesTest {
 
     // ---- promise 3
 
-    /** The sign ^ stands ahead of the wrong token. */
     private static void fault(int kind, String marked) {
-        int place = marked.indexOf('^');
-        PaidSecrets x = new PaidSecrets();
-        due("town of " + marked, Check.town(x, marked.substring(0, place) + marked.substring(place + 1)),
-            kind + 16 * place);
+        Check.townFault(kind, marked);
     }
 
     private static void tokens() {
@@ -138,7 +134,7 @@ public final class PromisesTest {
     }
 
     private static void fine(String text) {
-        due("town of " + text, Check.town(new PaidSecrets(), text), 0);
+        Check.fine(text);
     }
 
     private static void townFaults() {

@@ -64,6 +64,54 @@ final class Check {
         return x;
     }
 
+    static void fine(String text) {
+        due("town of " + text, town(new PaidSecrets(), text), 0);
+    }
+
+    /** The sign ^ stands ahead of the wrong token. */
+    static void townFault(int kind, String marked) {
+        due("town of " + marked, town(new PaidSecrets(), unmarked(marked)), kind + 16 * marked.indexOf('^'));
+    }
+
+    /** The same in a GOSSIP, behind a TOWN. */
+    static void gossipFault(int kind, String town, String marked) {
+        due("gossip of " + marked, gossip(of(town), unmarked(marked)), kind + 16 * marked.indexOf('^'));
+    }
+
+    static String unmarked(String marked) {
+        int place = marked.indexOf('^');
+        return marked.substring(0, place) + marked.substring(place + 1);
+    }
+
+    /** All that can be asked of what a call may change, for TOWNS of a few PEOPLE and SECRETS. */
+    static String all(PaidSecrets x) {
+        StringBuilder text = new StringBuilder();
+        for (int what = 0; what <= 10; what++) {
+            text.append(x.count(what)).append(' ');
+        }
+        int people = x.count(0);
+        int secrets = x.count(1);
+        for (int i = 0; i < people; i++) {
+            for (int what = 0; what <= 7; what++) {
+                text.append(person(x, i, what)).append(' ');
+            }
+            for (int j = 0; j < people; j++) {
+                for (int k = 0; k < secrets && i != j; k++) {
+                    text.append(x.aware(i, j, k)).append(' ');
+                }
+            }
+        }
+        for (int k = 0; k < secrets; k++) {
+            for (int what = 0; what <= 9; what++) {
+                text.append(x.secret(k, what)).append(' ');
+            }
+        }
+        for (int what = 0; what <= 2; what++) {
+            text.append(x.judged(what)).append(' ').append(x.leaks(what)).append(' ');
+        }
+        return text.toString();
+    }
+
     static int person(PaidSecrets x, int person, int what) {
         try {
             return x.person(person, what);
