@@ -145,6 +145,24 @@ public final class CallEdgesTest {
             }
         }
         due("they know it, nobody is aware", x.aware(0, 1, 1), 0);
+        int[][] tellings = {{0, 1, 0}, {0, 2, 1}, {0, 3, 1}, {1, 3, 1}, {0, 2, 3}, {0, 1, 3}};
+        for (int[] told : tellings) {
+            awareOfJust(told[0], told[1], told[2]);
+        }
+    }
+
+    private static void awareOfJust(int teller, int hearer, int told) {
+        PaidSecrets x = town();
+        Check.due("told", x.tell(teller, hearer, told) >= 0, true);
+        for (int person = 0; person < PEOPLE; person++) {
+            for (int other = 0; other < PEOPLE; other++) {
+                for (int secret = 0; secret < SECRETS && person != other; secret++) {
+                    boolean both = person == teller && other == hearer || person == hearer && other == teller;
+                    due("aware behind " + teller + hearer + told + ": " + person + other + secret,
+                        x.aware(person, other, secret), both && secret == told ? 1 : 0);
+                }
+            }
+        }
     }
 
     // ---- Promise 8: "Of ten .. (a gossip's one more); NONE: others, no ear."

@@ -30,19 +30,24 @@ public final class TermEdgesTest {
         leastOfEqualOnes();
         payersOfEqualOnes();
         plotOfEqualOnes();
+        plotTriesEachAnew();
         leaksOfEqualOnes();
         liesOfEqualOnes();
         nightsCutAtEach();
         nightsByKinds();
         nightsAside();
+        nightsOfOneInAMillion();
         settleOfNets();
         feastOfWorths();
         seedsDrawn();
         quartersInYears();
+        sixInYears();
         yearsFromNowOn();
         marksHoldEach();
         marksGoneBackTo();
         marksLaidOver();
+        marksHoldEachSight();
+        onePerson();
         noSecrets();
         noPeople();
         Check.end();
@@ -496,6 +501,33 @@ public final class TermEdgesTest {
         plot("both of them", six, 2, 1, 2, 40, 50);
     }
 
+    private static void plotTriesEachAnew() {
+        PaidSecrets x = Check.of(SIX + "secret s false of c costs 9 by a b;secret t true of f costs 6 by a;"
+            + "secret u true of f costs 9 on s by b;worth cost*knowers;");
+        plot("as it is", x, 0, 6 - 9 - 18, 0, NONE, NONE);
+        plot("s is met: u falls to 9", x, 1, 6 - 9, 1, 20, NONE);
+        plot("t is told as well", x, 2, 12 - 9, 2, 20, 21);
+        PaidSecrets y = Check.of(SIX + "secret s false of c costs 9 by a b;secret t true of f costs 6 by a;worth cost*knowers;");
+        plot("not met when t is told", y, 1, 12, 1, 21, NONE);
+        plot("t twice", y, 2, 18, 2, 21, 31);
+        PaidSecrets priest = Check.of("person a plain rank 1 tax 0;person b priest rank 1 tax 0;"
+            + "secret s true of a costs 99 by a;secret t true of a costs 30 by b;secret u true of a costs 20 by a b;");
+        plot("t has no knowers", priest, 2, 99 - 30, 0, NONE, NONE);
+        PaidSecrets zero = Check.of("person a plain rank 1 tax 0;person b priest rank 1 tax 0;person c plain rank 1 tax 0;"
+            + "secret t true of a costs 30 by b;secret u true of a costs 20 by a;worth cost*(knowers=0)+cost*(knowers=2);");
+        plot("the priest's alone", zero, 0, -30, 0, NONE, NONE);
+        plot("u told to c", zero, 1, -10, 1, 21, NONE);
+        PaidSecrets later = Check.of(TOWN + "worth cost*(age+1)+high;");
+        later.quarter();
+        later.rise(1);
+        plot("t 18 + 3, v 16 + 3 and t, less s 16 + 1", later, 0, 21 + 40 - 17, 0, NONE, NONE);
+        PaidSecrets told = Check.of(SIX + "secret s true of f costs 60 by a;worth knowers*10;");
+        told.tell(0, 2, 0);
+        plot("from who knows it now on", told, 1, 30, 1, 30, NONE);
+        due("undone", told.undo(), true);
+        plot("from who knows it now on", told, 1, 20, 1, 20, NONE);
+    }
+
     // ---- LEAKS: "how many sets; PEOPLE in all, in some; the least of the smallest sets"
 
     private static void leaks(PaidSecrets x, int... want) {
@@ -638,6 +670,35 @@ public final class TermEdgesTest {
         due("0.5", wave.holds(0, 1), 500000);
     }
 
+    private static void nightsOfOneInAMillion() {
+        String lucky = "person a plain rank 1 tax 0;person b plain rank 1 tax 0;person c deaf rank 1 tax 0;"
+            + "secret s true of b costs 90 by a;ear a b 8;ear b c 10;worth knowers;";
+        int untold = 1000000;
+        int told = 0;
+        int both = 0;
+        for (int night = 0; night <= 30; night++) {
+            PaidSecrets x = Check.of(lucky);
+            due("what is cut is lost, nothing else, night " + night, x.holds(0, night), untold + told + both);
+            due("worths", x.mean(0, night), (untold + 2 * told + 3 * both) / 1000);
+            both += told;
+            told = (int) (800000L * untold / 1000000);
+            untold = (int) (200000L * untold / 1000000);
+        }
+        due("the last ones", Check.of(lucky).holds(0, 10), 999997);
+        PaidSecrets cut = Check.of("person a plain rank 1 tax 0;person b plain rank 1 tax 0;"
+            + "secret s true of b costs 90 by a;ear a b 3;worth 1;");
+        due("six nights lose none", cut.holds(0, 6), 1000000);
+        due("1.000", cut.mean(0, 6), 1000);
+        due("the seventh loses one", cut.holds(0, 7), 999999);
+        due("0.999999 is cut", cut.mean(0, 7), 999);
+        PaidSecrets first = Check.of(THREE + "secret s true of b costs 90 by c;ear c a 4;ear b a 10;ear a b 10;");
+        due("the first one hears", first.mean(0, 1), 90000 * 6 / 10 + 45000 * 4 / 10);
+        due("60 percent", first.holds(0, 1), 600000);
+        due("and tells the second", first.mean(0, 2), 32400 + 10800 + 12000);
+        PaidSecrets last = Check.of(SIX + "secret s true of b costs 60 by f;ear f e 5;ear e f 10;ear f a 10;");
+        due("the last one tells", last.mean(0, 1), 25000);
+    }
+
     // ---- SETTLE: "the fewest payments by which all NETS are 0"
 
     private static void settleOfNets() {
@@ -741,6 +802,18 @@ public final class TermEdgesTest {
         due("the age is the quarters", Check.of(owing + "worth age*10;").years(3, 99, 2), 180);
         due("behind the 100th", Check.of(owing + "worth age*10;").years(3, 100, 2), 200);
         due("paid by the worth ahead of the quarter", Check.of(owing + "worth age*10;").years(3, 20, 1), 3);
+    }
+
+    private static void sixInYears() {
+        String six = SIX.replace("tax 0", "tax 9");
+        due("six fined each quarter", Check.of(six).years(1, 100, 1), 60);
+        StringBuilder text = new StringBuilder(six);
+        for (char c = 'a'; c <= 'f'; c++) {
+            text.append("secret ").append((char) (c + 12)).append(" true of a costs 9 by ").append(c).append(';');
+        }
+        due("six pay", Check.of(text.toString()).years(1, 100, 1), 0);
+        due("five pay", Check.of(text.toString().replace("f plain rank 0 tax 9", "f plain rank 0 tax 10"))
+            .years(1, 100, 1), 10);
     }
 
     private static void yearsFromNowOn() {
@@ -879,6 +952,61 @@ public final class TermEdgesTest {
         due("a mark from a mark", x.mark(3, false), true);
         due("back to 3", x.mark(3, true), true);
         due("the same", Check.person(x, 0, 1), 3);
+    }
+
+    private static void marksHoldEachSight() {
+        PaidSecrets x = town();
+        x.mark(0, false);
+        x.see(0, true);
+        x.see(1, false);
+        x.mark(1, false);
+        leaks(x, 1, 2, 2, 2);
+        x.mark(0, true);
+        leaks(x, 4, 0, 3, 0);
+        x.see(1, true);
+        x.see(0, false);
+        x.mark(2, false);
+        leaks(x, 1, 1, 1, 1);
+        x.mark(1, true);
+        leaks(x, 1, 2, 2, 2);
+        x.mark(2, true);
+        leaks(x, 1, 1, 1, 1);
+        x.see(2, false);
+        leaks(x, 0, NONE, NONE, NONE);
+        x.mark(2, true);
+        leaks(x, 1, 1, 1, 1);
+        due("gossip", Check.gossip(x, "rise a;rise b;"), 0);
+        x.mark(3, false);
+        due("another gossip", Check.gossip(x, "tell a b s;quarter;"), 0);
+        x.mark(1, false);
+        x.mark(3, true);
+        asked("two rises", new int[] {x.count(6), x.judged(0), x.judged(1)}, 2, NONE, 0);
+        x.mark(1, true);
+        asked("a telling that can't be", new int[] {x.count(6), x.judged(0), x.judged(1)}, 2, 0, 1);
+        x.mark(2, true);
+        asked("none", new int[] {x.count(6), x.judged(0), x.judged(1)}, 0, NONE, 0);
+    }
+
+    // ---- a TOWN of one PERSON, of PEOPLE without SECRETS, one of no PEOPLE
+
+    private static void onePerson() {
+        PaidSecrets x = Check.of("person a gossip rank 8 tax 1;secret s false of a costs 1 by a;");
+        asked("person", new int[] {Check.person(x, 0, 3), Check.person(x, 0, 4), Check.person(x, 0, 7)}, 1, 1, 0);
+        asked("alone", new int[] {x.aware(0, 0, 0), x.ear(0, 0), x.tell(0, 0, 0), x.lend(0, 0, 0), x.rests(1, NONE),
+            x.tell(0, 1, 0), x.aware(0, 1, 0)}, NONE, NONE, NONE, NONE, NONE, NONE, NONE);
+        due("plot", Check.plot(x, 0, 0, 0, 0), Check.THROWN);
+        due("plot", Check.plot(x, 0, 1, 0, 0), Check.THROWN);
+        asked("taxes", new int[] {x.least(0), x.payers(), x.settle()}, 1, 1, 0);
+        leaks(x, 2, 0, 1, 0);
+        x.see(0, true);
+        leaks(x, 1, 1, 1, 1);
+        asked("nights", new int[] {x.mean(0, 30), x.holds(0, 30)}, 1000, 1000000);
+        asked("years", new int[] {x.years(0, 100, 0), x.years(0, 100, 1), x.years(0, 100, 2)}, 0, 0, 1);
+        due("a tax of 1 not paid", x.quarter(), 1);
+        due("fined", Check.person(x, 0, 6), 1);
+        due("paid", x.pay(0, 1), 1);
+        due("not fined", x.quarter(), 0);
+        due("rise", x.rise(0) * 10 + x.rise(0), 89);
     }
 
     // ---- a TOWN of PEOPLE without SECRETS, one of no PEOPLE

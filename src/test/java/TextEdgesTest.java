@@ -43,6 +43,9 @@ public final class TextEdgesTest {
         theSameTwice();
         everyTokenOfTowns();
         everyTokenOfGossip();
+        tokensLeftOut();
+        tokensTwice();
+        tokensLeftOutOfGossip();
         firstFromTheLeft();
         leastKind();
         deepParts();
@@ -51,6 +54,7 @@ public final class TextEdgesTest {
         townFaultsChangeNothing();
         gossipFaultsChangeNothing();
         townBeginsAnew();
+        townBehindALargerOne();
         gossipStandsAlone();
         Check.end();
     }
@@ -89,8 +93,15 @@ public final class TextEdgesTest {
         due("is cut", x.town(), 1 + 16 * 996);
         due("a word at the end", Check.feed(x, " ".repeat(994) + "person"), 1000);
         due("is whole", x.town(), 1 + 16 * 1000);
-        due("a number over the end", Check.feed(x, " ".repeat(975) + "person a plain rank 1 tax 99999;"), 1000);
+        String ahead = " ".repeat(998 - "person a plain rank 1 tax ".length()) + "person a plain rank 1 tax ";
+        due("a number over the end", Check.feed(x, ahead + "99999;"), 1000);
         due("is cut", x.town(), 1 + 16 * 1000);
+        due("only its first digit", Check.feed(x, " " + ahead + "99999;"), 1000);
+        due("is cut", x.town(), 1 + 16 * 1000);
+        due("a number of five digits at the end", Check.feed(x, ahead.substring(3) + "99999;"), 1000);
+        due("is whole", x.town(), 1 + 16 * 995);
+        due("of four, cut", Check.feed(x, ahead.substring(2) + "99999;"), 1000);
+        due("is a number", x.town(), 4 + 16 * 996);
     }
 
     private static void signsOfTheTape() {
@@ -120,6 +131,13 @@ public final class TextEdgesTest {
         due("no gossip", Check.gossip(x, "rise;rise a;"), 1 + 16 * 4);
         due("taken by a fault of a gossip", x.count(10), 0);
         due("nothing is left ahead", Check.gossip(x, "quarter;"), 0);
+        due("no gossip", Check.gossip(x, "rise a;rise b;999999"), 1 + 16 * 14);
+        due("nothing is left behind a word", Check.gossip(x, "rise"), 1 + 16 * 4);
+        due("a law of nines", Check.town(x, "999999999999999"), 1);
+        due("nothing is left behind a number", Check.town(x, "worth 9"), 1 + 16 * 7);
+        due("a word of a's", Check.town(x, "aaaaaaaaaaaaaaaaaaaaaaaaa"), 1);
+        due("nothing is left behind a word", Check.town(x, "person a"), 1 + 16 * 8);
+        due("a blank end", Check.town(x, "worth 1         "), 1 + 16 * 16);
         due("fed", Check.feed(x, "rise a;"), 7);
         x.quarter();
         x.undo();
@@ -508,6 +526,72 @@ public final class TextEdgesTest {
         }
     }
 
+    private static void tokensLeftOut() {
+        for (String line : new String[] {"person ^deaf rank 3 tax 4;", "person c ^rank 3 tax 4;", "person c deaf ^3 tax 4;",
+            "person c deaf rank ^tax 4;", "person c deaf rank 3 ^4;", "person c deaf rank 3 tax ^;",
+            "person c deaf rank 3^;", "person c deaf^;", "person c^;", "person^;", "person c deaf ^tax 4;",
+            "person c deaf rank 3 tax 4^", "person c deaf rank 3 tax 4 ^person d deaf rank 3 tax 4;"}) {
+            fault(1, TOLD + line);
+        }
+        for (String line : new String[] {"secret ^true of a costs 9 by a;", "secret t ^of a costs 9 by a;",
+            "secret t true ^a costs 9 by a;", "secret t true of ^costs 9 by a;", "secret t true of a ^9 by a;",
+            "secret t true of a costs ^by a;", "secret t true of a costs ^on s by a;", "secret t true of a costs 9 ^s by a;",
+            "secret t true of a costs 9 on ^by a;", "secret t true of a costs 9 on s ^a;", "secret t true of a costs 9 ^a;",
+            "secret t true of a costs 9 by ^;", "secret t true of a costs 9^;", "secret t true of a ^by a;",
+            "secret t true ^by a;", "secret t ^by a;", "secret t true ^costs 9 by a;", "secret t true ^on s by a;",
+            "secret t true of a ^on s by a;", "secret t true of a costs 9 on s^;", "secret t true of a costs 9 by a^",
+            "secret t true of a costs 9 by a ^ear a b 3;", "secret ^by a;", "secret^;"}) {
+            fault(1, TOLD + line);
+        }
+        for (String line : new String[] {"ear b ^3;", "ear a ^3;", "ear a b^;", "ear ^3;", "ear a^;", "ear^;", "ear a b 3^",
+            "ear a b 3 ^ear b a 3;", "clash v ^;", "clash^;", "clash s^", "clash s v^", "clash s v ^clash s v;"}) {
+            fault(1, TOLD + line);
+        }
+        for (String e : new String[] {"^+ 2", "cost + ^* 2", "cost ^2", "cost + 2 ^not 1", "2 * ^;", "(cost < 3 ^;", "cost ^);",
+            "(^) + 1", "cost < ^;", "< 3", "cost = ^;", "cost - ^;", "not ^;", "not ^+ 1", "(^;", "1 and ^;", "1 or ^;",
+            "1 and ^and 1", "1 or ^and 1", "^and 1", "^or 1", "1 and 2 or ^;", "1 ^not 1", "1 ^(1)", "(1) ^(1)", "^;", "1^",
+            "1 ^age", "1 < 2 ^< 3", "1 = 2 ^= 3", "1 < 2 ^= 3", "(1 < 2 ^< 3)", "1 and 2 < 3 ^< 4", "not ^< 1", "^- 1",
+            "1 - ^- 1", "1 + ^+ 1", "1 * ^* 1", "(1 and ^)", "(1 or 2 + ^)"}) {
+            String law = "worth " + (e.contains("^") ? e : "^" + e);
+            fault(1, TOLD + law + (e.endsWith(";") || e.endsWith("^") ? "" : ";"));
+        }
+    }
+
+    private static void tokensTwice() {
+        for (String line : new String[] {"person ^person c deaf rank 3 tax 4;", "person c ^c deaf rank 3 tax 4;",
+            "person c deaf ^deaf rank 3 tax 4;", "person c deaf rank ^rank 3 tax 4;", "person c deaf rank 3 ^3 tax 4;",
+            "person c deaf rank 3 tax ^tax 4;", "person c deaf rank 3 tax 4 ^4;", "person c deaf rank 3 tax 4;^;",
+            "person c deaf ^tax 4 rank 3;", "person c ^rank 3 deaf tax 4;",
+            "secret ^secret t true of a costs 9 by a;", "secret t ^t true of a costs 9 by a;",
+            "secret t true ^true of a costs 9 by a;", "secret t true ^false of a costs 9 by a;",
+            "secret t true of ^of a costs 9 by a;", "secret t true of a ^a costs 9 by a;",
+            "secret t true of a costs ^costs 9 by a;", "secret t true of a costs 9 ^9 by a;",
+            "secret t true of a costs 9 on ^on s by a;", "secret t true of a costs 9 on s ^s by a;",
+            "secret t true of a costs 9 on s ^on v by a;", "secret t true of a costs 9 by ^by a;",
+            "secret t true of a costs 9 by a ^by b;", "secret t true of a costs 9 by a ^on s;", "ear ^ear a b 3;",
+            "ear a b 3 ^3;", "ear a b ^a 3;", "ear a b 3;^;", "clash ^clash s v;", "clash s v ^s;", "clash s v;^;",
+            "worth ^worth 1;", "worth 1;^;", "worth 1 ^1;"}) {
+            fault(1, TOLD + line);
+        }
+    }
+
+    private static void tokensLeftOutOfGossip() {
+        for (String line : new String[] {"tell a b ^;", "tell a ^;", "tell ^;", "pay a ^;", "pay ^;", "rise ^;", "quarter^",
+            "tell a b s^", "pay a s^", "rise a^", "tell a b s ^s;", "tell ^tell a b s;", "pay ^pay a s;", "rise ^rise a;",
+            "rise a ^b;", "quarter ^quarter;", "quarter ^a;", "quarter;^;", "tell a b s;^;", "^a;", "^;", "pay a s ^rise a;",
+            "tell a b s ^tell b a s;", "rise a ^quarter;", "^person c deaf rank 3 tax 4;", "^ear a b 3;", "^worth 1;",
+            "^clash s v;", "^secret t true of a costs 9 by a;"}) {
+            gossipFault(1, line);
+        }
+        for (String line : new String[] {"tell b ^s;", "tell a ^s;", "tell a b ^b s;", "tell a b ^a;", "pay ^s;", "pay ^v s;",
+            "pay a ^a s;", "pay a ^b;", "pay a s ^a;", "rise ^s;"}) {
+            gossipFault(2, line);
+        }
+        for (String line : new String[] {"^tell a b s;", "^pay a s;", "^rise a;", "^quarter;"}) {
+            fault(1, TOLD + line);
+        }
+    }
+
     // ---- FAULTS: "of the first token from the left that is wrong the least"
 
     private static void firstFromTheLeft() {
@@ -679,6 +763,38 @@ public final class TextEdgesTest {
         x.quarter();
         due("the same town", Check.town(x, told), 0);
         Check.due("as if new", Check.all(x).equals(fresh), true);
+    }
+
+    /** What a TOWN ahead of it had more of is nothing to the one behind, nor to the one behind that. */
+    private static void townBehindALargerOne() {
+        StringBuilder large = new StringBuilder(SIX.replace("plain", "priest").replace("tax 0", "tax 9"));
+        for (char c = 'k'; c < 'k' + 10; c++) {
+            large.append("secret ").append(c).append(" false of b costs 99 by a b c d e f;");
+            if (c > 'k') {
+                large.append("clash k ").append(c).append(';');
+            }
+        }
+        large.append("ear a b 3;ear b a 3;ear c d 3;worth 900;");
+        String small = "person a plain rank 1 tax 5;person b plain rank 1 tax 0;secret s true of b costs 8 by a;"
+            + "secret t true of a costs 9 by a b;";
+        String fresh = Check.all(Check.of(small));
+        PaidSecrets x = new PaidSecrets();
+        for (int ahead = 1; ahead <= 3; ahead++) {
+            for (int i = 0; i < ahead; i++) {
+                due("the large one", Check.town(x, large.toString()), 0);
+                due("its worths", x.count(5), 9000);
+            }
+            for (int i = 0; i < 3; i++) {
+                due("the small one", Check.town(x, small), 0);
+                due("its worths", x.count(5), 12);
+                Check.due("as if new", Check.all(x).equals(fresh), true);
+                due("no ears", x.ear(0, 1), PaidSecrets.NONE);
+                due("payers", x.payers(), 1);
+                due("lies", x.lies(0) + x.lies(2), 1);
+                due("true", x.tell(0, 1, 0), 4);
+                due("years", x.years(1, 100, 1) * 100 + x.years(1, 100, 2), 8);
+            }
+        }
     }
 
     private static void gossipStandsAlone() {
