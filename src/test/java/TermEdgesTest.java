@@ -507,14 +507,16 @@ public final class TermEdgesTest {
         plot("as it is", x, 0, 6 - 9 - 18, 0, NONE, NONE);
         plot("s is met: u falls to 9", x, 1, 6 - 9, 1, 20, NONE);
         plot("t is told as well", x, 2, 12 - 9, 2, 20, 21);
-        PaidSecrets y = Check.of(SIX + "secret s false of c costs 9 by a b;secret t true of f costs 6 by a;worth cost*knowers;");
+        PaidSecrets y = Check.of(SIX + "secret s false of c costs 9 by a b;secret t true of f costs 6 by a;"
+            + "worth cost*knowers;");
         plot("not met when t is told", y, 1, 12, 1, 21, NONE);
         plot("t twice", y, 2, 18, 2, 21, 31);
         PaidSecrets priest = Check.of("person a plain rank 1 tax 0;person b priest rank 1 tax 0;"
             + "secret s true of a costs 99 by a;secret t true of a costs 30 by b;secret u true of a costs 20 by a b;");
         plot("t has no knowers", priest, 2, 99 - 30, 0, NONE, NONE);
         PaidSecrets zero = Check.of("person a plain rank 1 tax 0;person b priest rank 1 tax 0;person c plain rank 1 tax 0;"
-            + "secret t true of a costs 30 by b;secret u true of a costs 20 by a;worth cost*(knowers=0)+cost*(knowers=2);");
+            + "secret t true of a costs 30 by b;secret u true of a costs 20 by a;"
+            + "worth cost*(knowers=0)+cost*(knowers=2);");
         plot("the priest's alone", zero, 0, -30, 0, NONE, NONE);
         plot("u told to c", zero, 1, -10, 1, 21, NONE);
         PaidSecrets later = Check.of(TOWN + "worth cost*(age+1)+high;");
@@ -963,8 +965,8 @@ public final class TermEdgesTest {
         leaks(x, 1, 2, 2, 2);
         x.mark(0, true);
         leaks(x, 4, 0, 3, 0);
-        x.see(1, true);
         x.see(0, false);
+        x.see(1, true);
         x.mark(2, false);
         leaks(x, 1, 1, 1, 1);
         x.mark(1, true);

@@ -538,7 +538,8 @@ public final class TextEdgesTest {
             "secret t true of a costs ^by a;", "secret t true of a costs ^on s by a;", "secret t true of a costs 9 ^s by a;",
             "secret t true of a costs 9 on ^by a;", "secret t true of a costs 9 on s ^a;", "secret t true of a costs 9 ^a;",
             "secret t true of a costs 9 by ^;", "secret t true of a costs 9^;", "secret t true of a ^by a;",
-            "secret t true ^by a;", "secret t ^by a;", "secret t true ^costs 9 by a;", "secret t true ^on s by a;",
+            "secret t true ^by a;", "secret t true of ^by a;", "secret t ^by a;", "secret t true ^costs 9 by a;",
+            "secret t true ^on s by a;",
             "secret t true of a ^on s by a;", "secret t true of a costs 9 on s^;", "secret t true of a costs 9 by a^",
             "secret t true of a costs 9 by a ^ear a b 3;", "secret ^by a;", "secret^;"}) {
             fault(1, TOLD + line);
@@ -547,7 +548,8 @@ public final class TextEdgesTest {
             "ear a b 3 ^ear b a 3;", "clash v ^;", "clash^;", "clash s^", "clash s v^", "clash s v ^clash s v;"}) {
             fault(1, TOLD + line);
         }
-        for (String e : new String[] {"^+ 2", "cost + ^* 2", "cost ^2", "cost + 2 ^not 1", "2 * ^;", "(cost < 3 ^;", "cost ^);",
+        for (String e : new String[] {"^+ 2", "cost + ^* 2", "cost ^2", "cost + 2 ^not 1", "2 * ^;",
+            "(cost < 3 ^;", "cost ^);",
             "(^) + 1", "cost < ^;", "< 3", "cost = ^;", "cost - ^;", "not ^;", "not ^+ 1", "(^;", "1 and ^;", "1 or ^;",
             "1 and ^and 1", "1 or ^and 1", "^and 1", "^or 1", "1 and 2 or ^;", "1 ^not 1", "1 ^(1)", "(1) ^(1)", "^;", "1^",
             "1 ^age", "1 < 2 ^< 3", "1 = 2 ^= 3", "1 < 2 ^= 3", "(1 < 2 ^< 3)", "1 and 2 < 3 ^< 4", "not ^< 1", "^- 1",
@@ -583,7 +585,8 @@ public final class TextEdgesTest {
             "^clash s v;", "^secret t true of a costs 9 by a;"}) {
             gossipFault(1, line);
         }
-        for (String line : new String[] {"tell b ^s;", "tell a ^s;", "tell a b ^b s;", "tell a b ^a;", "pay ^s;", "pay ^v s;",
+        for (String line : new String[] {"tell b ^s;", "tell a ^s;", "tell a b ^b s;", "tell a b ^a;", "pay ^s;",
+            "pay ^v s;",
             "pay a ^a s;", "pay a ^b;", "pay a s ^a;", "rise ^s;"}) {
             gossipFault(2, line);
         }
