@@ -1284,14 +1284,20 @@ public final class PaidSecrets {
             }
             tape.next();
             int secret = town.takeTold(tape, false);
+            if (secret == NONE) {
+                return false;
+            }
             talk.addLine(Talk.TELL, who, whom, secret);
-            return secret != NONE && tape.takeSign(';');
+            return tape.takeSign(';');
         }
 
         private static boolean readPay(Tape tape, Town town, Talk talk, int who) {
             int secrets = town.takeSet(tape, false);
+            if (secrets == NONE) {
+                return false;
+            }
             talk.addLine(Talk.PAY, who, 0, secrets);
-            return secrets != NONE;
+            return true;
         }
     }
 
